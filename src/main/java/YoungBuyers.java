@@ -817,18 +817,18 @@ public final class YoungBuyers {
             return since[number * OWNERS + owners[number] - 1];
         }
 
-        /** Which of its OWNERS a SHOP has on a DAY; -1 if it was not told by then. */
+        /** The row of the OWNER that a SHOP has on a DAY; -1 if it was not told by then. */
         int ownerOn(int number, int day) {
             if (!has(number)) {
                 return -1;
             }
-            int owner = -1;
+            int row = -1;
             for (int i = 0; i < owners[number] && i < OWNERS; i++) {
                 if (since[number * OWNERS + i] <= day) {
-                    owner = i;
+                    row = number * OWNERS + i;
                 }
             }
-            return owner;
+            return row;
         }
 
         int openOnes() {
@@ -1495,13 +1495,10 @@ public final class YoungBuyers {
             }
             goods[owner]++;
             goodDay[owner] = day;
-            if (tests.isSold(test)) {
-                solds[owner]++;
-                climb(test, owner, day);
+            if (!tests.isSold(test)) {
+                return;
             }
-        }
-
-        private void climb(int test, int owner, int day) {
+            solds[owner]++;
             if (steps[owner] < TOP_STEP && rules.holds(steps[owner] + 1, day, facts)) {
                 steps[owner]++;
                 stepDay[owner] = day;
@@ -1509,14 +1506,9 @@ public final class YoungBuyers {
             }
         }
 
-        /** Where the row of the OWNER stands to whom a TEST belongs; -1 without. */
+        /** The row of the OWNER to whom a TEST belongs; -1 without. */
         private int ownerOf(int test) {
-            return tests.has(test) ? rowOf(tests.shopOfTest[test], tests.day[test]) : -1;
-        }
-
-        private int rowOf(int shop, int day) {
-            int owner = shops.ownerOn(shop, day);
-            return owner < 0 ? -1 : shop * OWNERS + owner;
+            return tests.has(test) ? shops.ownerOn(tests.shopOfTest[test], tests.day[test]) : -1;
         }
 
         /** Where the TESTS of this CHILD in this SHOP are told; -1 without. */
@@ -1531,7 +1523,7 @@ public final class YoungBuyers {
 
         /** STEP of the OWNER that a SHOP has on a DAY. */
         int stepOf(int shop, int day) {
-            int owner = rowOf(shop, day);
+            int owner = shops.ownerOn(shop, day);
             return owner < 0 ? 0 : steps[owner];
         }
 
@@ -1612,7 +1604,7 @@ public final class YoungBuyers {
         void plan(int leaveOfTeam) {
             reckonTimes();
             found = false;
-            // From the greatest set down: of equals the one stays that gives the first SHOPS to the first team.
+            // From the greatest set down: of equals the one that gives first SHOPS to the first team.
             for (int set = all(); set >= 0; set--) {
                 if (!isAllowed(set)) {
                     continue;
