@@ -34,6 +34,7 @@ public final class ClerksTest {
         c.due("day ahead of now", x.clerk(0, 0, 0, 24, 0), -4);
         c.due("all day", x.clerk(9, 1, 0, 24, 2000), 1);
         c.due("an hour", x.clerk(9, 1, 23, 24, 1), 2);
+        c.due("the first hour", x.clerk(0, 0, 0, 1, 1), 3);
     }
 
     private static void roomForClerks(Check c) {

@@ -110,6 +110,7 @@ public final class RulesTest {
         fault(c, "a" + "\u0000", 1);
         fault(c, "a+a+a+a+a+a+a+a+a+a+a+a+a+a+a+a+a+a+a+a+a+a+a+a+a+a+a+a+a+a+a+a+a+a+a+a+a+a+a+a+", 80);
         fault(c, "a|a|a|a|a|a|a|a|a|a|a|a|a|a|a|a|a|a|a|a|a|a|a|a|a|a|a|a|a|a|a|a|a|a|a|a|a|a|a|99", -1);
+        fault(c, "s&s&s&s&s&s&s&s&s&s&s&s&s&s&s&s&s&s&s&s&s&s&s&s&s&s&s&s&s&s&s&s&s&s&s&s&s&s&s&99", -1);
         for (int sign = 0; sign < 256; sign++) {
             boolean stands = "abcdghkmnopsy0123456789".indexOf(sign) >= 0;
             boolean begins = sign == '!' || sign == '(';
@@ -177,6 +178,11 @@ public final class RulesTest {
         holds(c, "c-1=0-1", true);
         holds(c, "c-1&s", false);
         holds(c, "g&s&!c", true);
+        holds(c, "c|c", false);
+        holds(c, "0|c-1", false);
+        holds(c, "s&s&s&s&s&s&s&s&s&s&s&s&s&s&s&s&s&s&s&s&s&s&s&s&s&s&s&s&s&s&s&s&s&s&s&s&s&s&s&c", false);
+        holds(c, "c|c|c|c|c|c|c|c|c|c|c|c|c|c|c|c|c|c|c|c|c|c|c|c|c|c|c|c|c|c|c|c|c|c|c|c|c|c|c|s", true);
+        holds(c, "h-1-1-1-1-1-1-1-1-1=0&c+s+s+s+s+s+s+s+s+s+s+s+s+s+s+s+s+s+s+s+s+s+s+s+s+s+s=27-1", true);
     }
 
     private static void holds(Check c, String text, boolean due) {

@@ -64,15 +64,17 @@ public final class TestsTest {
 
     private static void roomForTests(Check c) {
         YoungBuyers x = oneShop();
+        x.days(5);
         for (int i = 0; i < 100; i++) {
-            c.due("test " + i, x.test(0, 0, 0, 0, 1, 4), i);
+            c.due("test " + i, x.test(0, 0, 0, 5, 1, 4), i);
         }
-        c.due("a 101st", x.test(0, 0, 0, 0, 1, 4), -6);
-        c.due("a 101st at -1", x.test(0, 0, 0, 0, -1, 4), -4);
+        c.due("a 101st", x.test(0, 0, 0, 5, 1, 4), -6);
+        c.due("a 101st at -1", x.test(0, 0, 0, 5, -1, 4), -4);
+        c.due("a 101st ahead of the one ahead", x.test(0, 0, 0, 4, 1, 4), -3);
         c.due("count(5)", x.count(5), 100);
         c.due("count(7)", x.count(7), 100);
-        c.due("the last one's facts", x.fact(99, 0, 'k'), 99);
-        c.due("the last one's facts", x.fact(99, 0, 'p'), 99);
+        c.due("the last one's facts", x.fact(99, 5, 'k'), 99);
+        c.due("the last one's facts", x.fact(99, 5, 'p'), 99);
     }
 
     private static void appeal(Check c) {
