@@ -15,6 +15,16 @@ final class Check {
         }
     }
 
+    void due(String call, String got, String want) {
+        asked++;
+        if (!got.equals(want)) {
+            wrong++;
+            if (wrong <= 50) {
+                System.out.println(call + " told \"" + got + "\", due is \"" + want + "\"");
+            }
+        }
+    }
+
     void isTrue(String what, boolean holds) {
         due(what, holds ? 1 : 0, 1);
     }
