@@ -189,8 +189,8 @@ public final class EdgesCostTest {
 
     /** "Nothing changes but how many there were": each number by itself, again and again. */
     private static void refusalsAreCounted(Check c) {
-        Twins.Call[] calls = {x -> x.appeal(-1), x -> x.cost(5, 0), x -> x.draw(1, 0), x -> x.days(0), x -> x.letters(0),
-            x -> x.leave(2001)};
+        Twins.Call[] calls = {x -> x.appeal(-1), x -> x.cost(5, 0), x -> x.draw(1, 0), x -> x.days(0),
+            x -> x.letters(0), x -> x.leave(2001)};
         YoungBuyers x = new YoungBuyers();
         for (int round = 1; round <= 10; round++) {
             for (int i = 0; i < calls.length; i++) {

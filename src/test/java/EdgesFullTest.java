@@ -48,8 +48,9 @@ public final class EdgesFullTest {
 
     private static void noRoom(Check c) {
         YoungBuyers x = full();
-        Twins.Call[] calls = {y -> y.days(1), y -> y.shop(0, 0, 0, 0), y -> y.sell(0), y -> y.guess(7, 8), y -> y.feed(1, 0L),
-            y -> y.rule(0, 2000), y -> y.test(0, 0, 0, 2000, 0, 0), y -> y.clerk(0, 0, 0, 24, 2000)};
+        Twins.Call[] calls = {y -> y.days(1), y -> y.shop(0, 0, 0, 0), y -> y.sell(0), y -> y.guess(7, 8),
+            y -> y.feed(1, 0L), y -> y.rule(0, 2000), y -> y.test(0, 0, 0, 2000, 0, 0),
+            y -> y.clerk(0, 0, 0, 24, 2000)};
         int[] before = new int[18];
         for (int what = 0; what < 18; what++) {
             before[what] = x.count(what);
@@ -146,5 +147,6 @@ public final class EdgesFullTest {
         x.appeal(41);
         c.due("38 of them sold", x.back(0), 38);
         c.due("39 of them", x.back(2), 39);
+        c.due("38 of them in the table", x.helped(2000, 4), 38);
     }
 }

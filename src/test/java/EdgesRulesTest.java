@@ -184,8 +184,8 @@ public final class EdgesRulesTest {
 
     /** "The end, if something lacks." */
     private static void faultAtTheEnd(Check c) {
-        String[] lacking = {"", "!", "(", "s+", "s-", "s<", "s=", "s>", "s&", "s|", "(s", "(s&", "!(", "!(s", "((s)", "s<s+",
-            "s&!", "s|(", "1+", "9999-"};
+        String[] lacking = {"", "!", "(", "s+", "s-", "s<", "s=", "s>", "s&", "s|", "(s", "(s&", "!(", "!(s", "((s)",
+            "s<s+", "s&!", "s|(", "1+", "9999-"};
         for (String text : lacking) {
             fault(c, text, text.length());
         }

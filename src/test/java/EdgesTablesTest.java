@@ -309,8 +309,8 @@ public final class EdgesTablesTest {
     /** "The chance that x or fewer had a LETTER": none, all, and all but one. */
     private static void chancesAtTheEnds(Check c) {
         // Four in each ward; x and z of them sold.
-        long[][] due = {{0, 0, 1, 1}, {4, 4, 1, 1}, {0, 4, 1, 70}, {4, 0, 1, 1}, {1, 4, 1, 14}, {0, 1, 1, 2}, {1, 0, 1, 1},
-            {2, 2, 53, 70}, {1, 3, 17, 70}, {3, 1, 69, 70}, {3, 4, 1, 2}, {0, 3, 1, 14}};
+        long[][] due = {{0, 0, 1, 1}, {4, 4, 1, 1}, {0, 4, 1, 70}, {4, 0, 1, 1}, {1, 4, 1, 14}, {0, 1, 1, 2},
+            {1, 0, 1, 1}, {2, 2, 53, 70}, {1, 3, 17, 70}, {3, 1, 69, 70}, {3, 4, 1, 2}, {0, 3, 1, 14}};
         for (long[] d : due) {
             YoungBuyers x = new YoungBuyers();
             x.child(0, -5000);
