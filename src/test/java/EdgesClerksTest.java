@@ -14,6 +14,7 @@ public final class EdgesClerksTest {
         goodTestsAsOfNow(c);
         twoTestsOrMore(c);
         greatestPart(c);
+        overASale(c);
         c.end();
     }
 
@@ -233,7 +234,10 @@ public final class EdgesClerksTest {
     private static void greatestPart(Check c) {
         int[][] rows = {{2, 1, 2, 1, 3}, {2, 1, 4, 2, 3}, {3, 1, 2, 1, 7}, {3, 2, 2, 1, 3}, {50, 49, 49, 48, 3},
             {49, 48, 50, 49, 7}, {2, 2, 3, 3, 3}, {3, 3, 2, 2, 3}, {5, 2, 2, 1, 7}, {5, 3, 2, 1, 3}, {2, 0, 2, 0, 3},
-            {2, 0, 9, 1, 7}, {33, 11, 66, 22, 3}, {33, 11, 66, 23, 7}, {33, 12, 66, 23, 3}};
+            {2, 0, 9, 1, 7}, {33, 11, 66, 22, 3}, {33, 11, 66, 23, 7}, {33, 12, 66, 23, 3},
+            // Alike if cut to hundredths or to thousandths, as fractions they are not.
+            {3, 1, 59, 20, 7}, {59, 20, 3, 1, 3}, {49, 1, 50, 1, 3}, {50, 1, 49, 1, 7}, {43, 10, 56, 13, 3},
+            {56, 13, 43, 10, 7}};
         for (int[] r : rows) {
             YoungBuyers x = byHours();
             stands(x, 3, r[0], r[1]);
@@ -250,5 +254,23 @@ public final class EdgesClerksTest {
         c.due("0 rather than 9", first.worst(), 0);
         stands(first, 9, 1, 1);
         c.due("9 with two thirds", first.worst(), 9);
+    }
+
+    /** CLERKS stand in a SHOP, whoever owns it, and whether it is OPEN or SHUT. */
+    private static void overASale(Check c) {
+        YoungBuyers x = oneShop();
+        x.clerk(5, 0, 0, 24, 0);
+        x.test(0, 0, 0, 0, 9, 4);
+        x.days(1);
+        x.sell(0);
+        tallyIs(c, "behind a sale", x, 5, 1, 1);
+        x.test(0, 0, 0, 1, 9, 4);
+        tallyIs(c, "of both owners", x, 5, 2, 2);
+        x.open(0, false);
+        tallyIs(c, "shut", x, 5, 2, 2);
+        c.due("worst", x.worst(), 5);
+        c.due("told of a shut shop", x.clerk(6, 0, 0, 24, 1), 2);
+        tallyIs(c, "the first owner's", x, 5, 1, 1);
+        tallyIs(c, "told later", x, 6, 1, 1);
     }
 }

@@ -17,6 +17,7 @@ public final class EdgesDrawTest {
         backArguments(c);
         backOfNone(c);
         backOfTheLatestGoodTest(c);
+        backOfAnyOwner(c);
         c.end();
     }
 
@@ -324,5 +325,25 @@ public final class EdgesDrawTest {
         x.appeal(1);
         c.due("all voided", x.back(0), 0);
         c.due("all voided: below", x.back(1), 1);
+    }
+
+    /** "Those drawn SHOPS whose latest TEST ..": ahead of the DRAW or behind it, of whichever OWNER. */
+    private static void backOfAnyOwner(Check c) {
+        YoungBuyers x = withWeights(1, 1);
+        x.child(0, -5000);
+        x.test(0, 0, 0, 0, 0, 4);
+        x.days(1);
+        x.draw(1, 0);
+        c.due("a test ahead of the draw", x.back(0), 2);
+        x.sell(0);
+        c.due("of the owner ahead", x.back(0), 2);
+        x.open(0, false);
+        c.due("shut", x.back(0), 2);
+        x.open(0, true);
+        x.test(0, 0, 0, 1, 0, 0);
+        c.due("the next owner did not sell", x.back(0), 0);
+        x.draw(1, 500);
+        c.due("the other shop is drawn", x.drawn(1, 0), 1);
+        c.due("it had no test", x.back(0), 0);
     }
 }

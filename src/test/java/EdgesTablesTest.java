@@ -14,6 +14,7 @@ public final class EdgesTablesTest {
         fromADayOn(c);
         theFirstGoodOne(c);
         ofShopsThatWereDrawn(c);
+        toldAheadOfTheDraw(c);
         oneByTwenty(c);
         chancesAtTheEnds(c);
         greatestTable(c);
@@ -46,6 +47,11 @@ public final class EdgesTablesTest {
         YoungBuyers x = before.make();
         x.draw(1, 0);
         c.due("one drawn", x.letters(0), 0);
+        YoungBuyers shut = drawnShops(2);
+        shut.open(0, false);
+        shut.open(1, false);
+        c.due("two drawn, though shut", shut.letters(1), 1);
+        c.due("a letter of a shut shop", shut.letter(0), 1);
     }
 
     /** "How many LETTERS are left to give (m by 2, cut, at first)." */
@@ -274,6 +280,23 @@ public final class EdgesTablesTest {
         helpedIs(c, "a new draw, without letters", x, 0, 1, 1, 0, 0, 2, 1, 0);
     }
 
+    /** TESTS that were told ahead of the DRAW and of the LETTERS are of the table, too. */
+    private static void toldAheadOfTheDraw(Check c) {
+        YoungBuyers x = new YoungBuyers();
+        x.child(0, -5000);
+        for (int i = 0; i < 2; i++) {
+            x.shop(0, i, 0, 0);
+            x.test(i, 0, 0, 0, 0, i == 1 ? 4 : 0);
+        }
+        x.days(1);
+        x.draw(2, 0);
+        helpedIs(c, "a draw behind them", x, 0, 1, 1, 0, 0, 2, 1, 0);
+        x.letters(1);
+        helpedIs(c, "letters behind them", x, 0, 1, 2, 1, 0, 1, 1, 0);
+        x.letters(0);
+        helpedIs(c, "other letters", x, 0, 1, 1, 1, 1, 1, 0, 0);
+    }
+
     /** n SHOPS in WARD 0 that did not sell, one in WARD 1 that did: 1 by (n and 1). */
     private static YoungBuyers oneAgainst(int n) {
         YoungBuyers x = new YoungBuyers();
@@ -356,5 +379,13 @@ public final class EdgesTablesTest {
         tableIs(c, "shut", x, 0, 1, 2, 1, 0, 1, 1, 0);
         c.due("two others: n1", x.wards(2, 3, 0, 2), 1);
         c.due("two others: z", x.wards(2, 3, 0, 5), 0);
+        x.draw(1, 0);
+        c.due("one of the others is drawn", x.drawn(2, 0), 1);
+        tableIs(c, "others are drawn", x, 0, 1, 2, 1, 0, 1, 1, 0);
+        c.due("drawn or not: n1", x.wards(2, 3, 0, 2), 1);
+        c.due("drawn or not: n2", x.wards(2, 3, 0, 4), 1);
+        x.days(1);
+        x.sell(0);
+        tableIs(c, "sold", x, 0, 1, 2, 1, 0, 1, 1, 0);
     }
 }

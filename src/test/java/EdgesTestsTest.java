@@ -189,6 +189,12 @@ public final class EdgesTestsTest {
         x.days(1);
         c.due("test 0 a day later", x.appeal(0), -3);
         c.due("voided ones", x.count(6), 2);
+        c.due("voided by 9, as it was told once", x.testOf(0, 9, 0), 0);
+        c.due("not voided by 8", x.testOf(0, 8, 0), 1);
+        x.open(2, false);
+        x.sell(2);
+        c.due("a test of a shut shop and of the owner ahead", x.appeal(7), 1);
+        c.due("it is voided", x.testOf(7, 10, 0), 0);
     }
 
     /** "-1; -2; -4, -6 K (0 .. 2000)." */
@@ -363,15 +369,20 @@ public final class EdgesTestsTest {
         x.days(1);
         x.known(0, 1, true);
         c.due("known in another shop", x.fact(0, 0, 'n'), 0);
+        x.test(1, 0, 0, 1, 0, 0);
+        c.due("known in that other shop", x.fact(1, 1, 'n'), 1);
+        x.appeal(1);
         x.known(0, 0, true);
         x.guess(0, 25);
         c.due("known now, as of then", x.fact(0, 0, 'n'), 1);
         c.due("guessed now, as of then", x.fact(0, 0, 'b'), 25);
         Check.rule(x, "n=0", 0, 1);
         x.test(0, 0, 0, 1, 0, 0);
-        c.due("not good now", x.testOf(1, 1, 1), 0);
+        c.due("not good now", x.testOf(2, 1, 1), 0);
+        x.sell(0);
+        c.due("known there, whoever owns it", x.testOf(2, 1, 1), 0);
         x.known(0, 0, false);
-        c.due("good now", x.testOf(1, 1, 1), 1);
+        c.due("good now", x.testOf(2, 1, 1), 1);
     }
 
     /** "GOOD if the RULE of USE 0 that is in force on its DAY holds for it." */

@@ -13,6 +13,7 @@ public final class EdgesWorkTest {
         eightAtMost(c);
         whoMay(c);
         testsThatCountNow(c);
+        lostOnesToo(c);
         timeOfATeam(c);
         leaveIsTheMost(c);
         theLongerIsLeast(c);
@@ -250,6 +251,34 @@ public final class EdgesWorkTest {
         way(c, y, true, 1, 2);
         y.test(0, 0, 0, 0, 0, 0);
         times(c, "both had a test in the first shop", y, -9, -9);
+        YoungBuyers old = at(10, 0);
+        old.test(0, 0, 0, 0, 0, 0);
+        old.days(1);
+        old.sell(0);
+        way(c, old, true, 0);
+        old.days(1999);
+        old.test(0, 1, 0, 2000, 0, 0);
+        times(c, "however long ago, whoever owned the shop then", old, -9, -9);
+    }
+
+    /** "SHOPS that were drawn and are OPEN": LOST ones are drawn, done and tested like the others. */
+    private static void lostOnesToo(Check c) {
+        YoungBuyers x = at(10, 0, 0, 10);
+        x.child(2, -5000);
+        for (int use = 1; use <= 4; use++) {
+            Check.rule(x, "1", use, 0);
+        }
+        for (int i = 0; i < 4; i++) {
+            x.test(1, 2, 0, 0, 0, 4);
+        }
+        c.due("one is lost", x.lost(), 1);
+        times(c, "both are to be done", x, 30, 30);
+        way(c, x, false, 0);
+        way(c, x, true, 1);
+        c.due("both are drawn", x.draw(2, 0), 2);
+        c.due("a lost one is tested", x.test(1, 2, 0, 0, 0, 4), 4);
+        c.due("and goes no further", x.step(1, 0, 0), 4);
+        c.due("and costs", x.most(39), 1);
     }
 
     /** "TIME of a team: its WAY and 10 for each SHOP; with none 0"; "begins at 0, 0 and comes back there". */

@@ -19,10 +19,15 @@ public final class FaceTest {
         "int clerk(int,int,int,int,int)", "int tally(int,int)", "int worst()", "int cost(int,int)",
         "int most(int)", "int count(int)"};
 
+    private static final String BACK_THROWS =
+            "[class java.lang.IllegalStateException, class java.lang.IllegalArgumentException]";
+
     public static void main(String[] args) {
         Check c = new Check();
         face(c);
         aNewObject(c);
+        manyCalls(c);
+        sideBySide(c);
         c.end();
     }
 
@@ -38,11 +43,17 @@ public final class FaceTest {
             found.add(told(m));
             names.add(m.getName());
             c.isTrue(m + " is public", Modifier.isPublic(m.getModifiers()));
+            c.isTrue(m + " is of an object", !Modifier.isStatic(m.getModifiers()));
+            c.due(m + " throws", Arrays.toString(m.getExceptionTypes()), m.getName().equals("back") ? BACK_THROWS : "[]");
         }
         c.isTrue("the methods of the face: " + found, found.equals(new TreeSet<>(Arrays.asList(FACE))));
         for (Field f : type.getDeclaredFields()) {
             c.isTrue(f + " is private", Modifier.isPrivate(f.getModifiers()));
         }
+        c.due("public fields and classes", type.getFields().length + type.getClasses().length, 0);
+        c.due("constructors", type.getDeclaredConstructors().length, 1);
+        c.due("what it is a kind of", type.getSuperclass() + " " + type.getInterfaces().length,
+                "class java.lang.Object 0");
         for (Constructor<?> k : type.getDeclaredConstructors()) {
             c.isTrue(k + " is public", Modifier.isPublic(k.getModifiers()) && k.getParameterCount() == 0);
         }
@@ -83,5 +94,51 @@ public final class FaceTest {
         c.due("drawn(0, 0) of a new object", x.drawn(0, 0), -5);
         c.due("childOf(0, 0) of a new object", x.childOf(0, 0), -5);
         c.due("tally(0, 0) of a new object", x.tally(0, 0), 0);
+    }
+
+    /** "An object is used for at most 512 calls": up to the last of them it answers as ever. */
+    private static void manyCalls(Check c) {
+        YoungBuyers x = new YoungBuyers();
+        for (int i = 1; i <= 511; i++) {
+            c.due("call " + i, i % 2 == 0 ? x.days(1) : x.days(0), i % 2 == 0 ? i / 2 : -4);
+        }
+        c.due("call 512", x.count(14), 256);
+        YoungBuyers y = new YoungBuyers();
+        for (int i = 1; i <= 511; i++) {
+            c.due("call " + i, y.letter(0), -1);
+        }
+        c.due("call 512", y.shop(0, 0, 0, 0), 0);
+        YoungBuyers z = new YoungBuyers();
+        for (int i = 1; i <= 511; i++) {
+            z.letter(0);
+        }
+        c.due("call 512", z.count(11), 511);
+    }
+
+    /** An object's answers are its own, whatever is told to another one in between. */
+    private static void sideBySide(Check c) {
+        YoungBuyers x = new YoungBuyers();
+        YoungBuyers y = new YoungBuyers();
+        for (int i = 0; i < 40; i++) {
+            c.due("a shop of one", x.shop(0, 0, 0, 0), i);
+            c.due("no such shop of the other", y.weight(0, 1), -1);
+        }
+        x.child(0, -5000);
+        x.draw(5, 0);
+        x.letters(0);
+        Check.rule(x, "s", 0, 0);
+        x.test(0, 0, 0, 0, 0, 4);
+        x.clerk(0, 0, 0, 24, 0);
+        x.leave(0);
+        x.cost(0, 0);
+        Check.feed(x, "a");
+        x.days(1);
+        for (int what = 0; what <= 17; what++) {
+            c.due("count(" + what + ") of the other", y.count(what), what == 11 ? 40 : 0);
+        }
+        c.due("leave of the other", y.leave(1), 300);
+        c.due("cost of the other", y.cost(0, 1), 20);
+        c.due("a guess of the other", y.guess(0, 10), -5);
+        c.due("a shift of the other", y.shop(0, 0, 0, 0) + y.clerk(1, 0, 0, 1, 0), 1);
     }
 }

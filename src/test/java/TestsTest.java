@@ -242,6 +242,8 @@ public final class TestsTest {
         c.due("the second owner on 9", x.step(0, 9, 10), 2);
         c.due("the third owner on 10", x.step(0, 10, 10), 1);
         c.due("o anew", x.fact(3, 10, 'o'), 0);
+        c.due("p anew", x.fact(3, 10, 'p'), 0);
+        c.due("y anew", x.fact(3, 10, 'y'), 0);
         c.due("d anew", x.fact(3, 10, 'd'), 999);
         c.due("m anew", x.fact(3, 10, 'm'), 99);
         c.due("k is of the shop", x.fact(3, 10, 'k'), 3);

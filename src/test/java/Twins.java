@@ -1,5 +1,8 @@
 import java.util.ArrayList;
 import java.util.List;
+import java.util.Objects;
+import java.util.TreeMap;
+import java.util.TreeSet;
 
 /**
  * Two objects with the same calls behind them; one of them is called once more. What both answer then to
@@ -28,6 +31,7 @@ final class Twins {
     static final long ARGUMENT_EXCEPTION = Long.MIN_VALUE + 1;
     private static final String LETTERS = "abcdghkmnopsy";
     private static final int PARTS = 8;
+    private static final String[] WORDS = {"now", "shops", "tests", "work", "town", "people", "rest", "anew"};
     private static final int FIRST_REFUSAL = 11;
     private static final int LAST_REFUSAL = 16;
 
@@ -108,6 +112,35 @@ final class Twins {
             }
         }
         return "";
+    }
+
+    /** All that is answered otherwise behind the call: the part of the asking by its word, and what is asked. */
+    static TreeSet<String> changed(Town town, Call call) {
+        TreeSet<String> found = new TreeSet<>();
+        for (int part = 0; part < PARTS; part++) {
+            YoungBuyers x = town.make();
+            call.on(x);
+            TreeMap<String, List<Long>> one = byName(x, part);
+            TreeMap<String, List<Long>> other = byName(town.make(), part);
+            TreeSet<String> names = new TreeSet<>(one.keySet());
+            names.addAll(other.keySet());
+            for (String name : names) {
+                if (!Objects.equals(one.get(name), other.get(name))) {
+                    found.add(WORDS[part] + ": " + name);
+                }
+            }
+        }
+        return found;
+    }
+
+    private static TreeMap<String, List<Long>> byName(YoungBuyers x, int part) {
+        Twins asked = new Twins(x);
+        asked.ask(part);
+        TreeMap<String, List<Long>> found = new TreeMap<>();
+        for (int i = 0; i < asked.calls.size(); i++) {
+            found.computeIfAbsent(asked.calls.get(i), name -> new ArrayList<>()).add(asked.answers.get(i));
+        }
+        return found;
     }
 
     private void ask(int part) {
