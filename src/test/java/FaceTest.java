@@ -44,7 +44,8 @@ public final class FaceTest {
             names.add(m.getName());
             c.isTrue(m + " is public", Modifier.isPublic(m.getModifiers()));
             c.isTrue(m + " is of an object", !Modifier.isStatic(m.getModifiers()));
-            c.due(m + " throws", Arrays.toString(m.getExceptionTypes()), m.getName().equals("back") ? BACK_THROWS : "[]");
+            c.due(m + " throws", Arrays.toString(m.getExceptionTypes()),
+                    m.getName().equals("back") ? BACK_THROWS : "[]");
         }
         c.isTrue("the methods of the face: " + found, found.equals(new TreeSet<>(Arrays.asList(FACE))));
         for (Field f : type.getDeclaredFields()) {

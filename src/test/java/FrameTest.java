@@ -117,7 +117,8 @@ public final class FrameTest {
     }
 
     private static void draws(Check c) {
-        only(c, "a draw", x -> x.draw(2, 1), "now: (back .|count 9|count 10|helped .*)|shops: (drawn|letter) .|work: .*");
+        only(c, "a draw", x -> x.draw(2, 1),
+                "now: (back .|count 9|count 10|helped .*)|shops: (drawn|letter) .|work: .*");
         only(c, "letters", x -> x.letters(3), "now: helped .*|shops: letter .");
         only(c, "leave", x -> x.leave(60), "work: .*|rest: leave");
     }
@@ -149,7 +150,8 @@ public final class FrameTest {
     /** What is told and then told as it was leaves no trace. */
     private static void thereAndBack(Check c) {
         Twins.leaves(c, "shut and open", FrameTest::town, 1, x -> x.open(0, false) * x.open(0, true));
-        Twins.leaves(c, "known no more, and again", FrameTest::town, 1, x -> x.known(0, 0, false) * x.known(0, 0, true));
+        Twins.leaves(c, "known no more, and again", FrameTest::town, 1,
+                x -> x.known(0, 0, false) * x.known(0, 0, true));
         Twins.leaves(c, "a weight", FrameTest::town, 20, x -> x.weight(0, 20) + x.weight(0, 5) - 5);
         Twins.leaves(c, "a cost", FrameTest::town, 500, x -> x.cost(2, 500) + x.cost(2, 32) - 32);
         Twins.leaves(c, "a leave", FrameTest::town, 0, x -> x.leave(0) + x.leave(400) - 400);

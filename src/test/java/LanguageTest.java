@@ -18,7 +18,7 @@ public final class LanguageTest {
             "class [I", "class [J", "class [C", "class [B");
     /** What the rules leave out, and some that they allow but this class has no need of. */
     private static final String[] NEVER = {"->", "::", "\\w+Exact\\(", "\\bsynchronized\\b",
-        "\\bassert\\b", "\\bfinally\\b", "\\bcatch\\b", "\\btry\\b", "\\bpackage\\b", "\\bprotected\\b", "\\bvolatile\\b",
+        "\\bassert\\b", "\\bfinally\\b", "\\bcatch\\b", "\\btry\\b", "\\bpackage\\b", "\\bprotected\\b",
         "\\bThread\\b", "\\bRandom\\b", "\\bhashCode\\b", "\\btoString\\b", "\\bgetMessage\\b", "\\bdouble\\b",
         "\\bfloat\\b", "\\bstatic \\{", "System\\.(?!arraycopy\\()", "Arrays\\.(?!(copyOf|copyOfRange|fill)\\()",
         "Math\\.(?!(max|min|abs|floorDiv|floorMod)\\()", "Integer\\.(?!bitCount\\()", "while \\(true\\)", "for \\(;;"};
